@@ -1,16 +1,22 @@
 /** Counts the answers that are not the ones that are due; a boolean counts 1 or 0. */
 final class Due {
+    private static String sentence = "";
     private static int asked = 0;
     private static int wrong = 0;
 
     private Due() {
     }
 
+    /** Names the sentence of the document that the answers after it are tests of. */
+    static void by(String where, String words) {
+        sentence = where + ", '" + words + "': ";
+    }
+
     static void is(String call, long got, long want) {
         asked++;
         if (got != want) {
             wrong++;
-            System.out.println(call + " answered " + got + ", due is " + want);
+            System.out.println(sentence + call + " answered " + got + ", due is " + want);
         }
     }
 

@@ -118,7 +118,7 @@ public final class PromisesTest {
 
     private static void promises4To7OneCircle() {
         for (int n = 1; n <= 6; n++) {
-            MeanCycles x = ring(n, 0, 1);
+            MeanCycles x = Graphs.ring(n, 0, 1);
             x.arc(n - 1, 0, 1, 1);
             fractions("a ring of " + n + " with weight 1", x, 1, n, 1, n);
             x.arc(n - 1, 0, -1, 1);
@@ -129,7 +129,7 @@ public final class PromisesTest {
     }
 
     private static void promises4To7LowestTerms() {
-        MeanCycles x = ring(6, 2, 5);
+        MeanCycles x = Graphs.ring(6, 2, 5);
         fractions("12 by 6, 12 by 30", x, 2, 1, 2, 5);
         x.arc(0, 1, -6, 5);
         fractions("4 by 6, 4 by 30", x, 2, 3, 2, 15);
@@ -142,13 +142,13 @@ public final class PromisesTest {
     }
 
     private static void promises4To7Edges() {
-        fractions("six points, all least", ring(6, -20, 1), -20, 1, -20, 1);
-        fractions("six points, all greatest", ring(6, 20, 5), 20, 1, 4, 1);
-        fractions("six points, light and slow", ring(6, -20, 5), -20, 1, -4, 1);
-        MeanCycles x = ring(6, 20, 5);
+        fractions("six points, all least", Graphs.ring(6, -20, 1), -20, 1, -20, 1);
+        fractions("six points, all greatest", Graphs.ring(6, 20, 5), 20, 1, 4, 1);
+        fractions("six points, light and slow", Graphs.ring(6, -20, 5), -20, 1, -4, 1);
+        MeanCycles x = Graphs.ring(6, 20, 5);
         x.arc(0, 1, 19, 5);
         fractions("six points, 119 by 6, 119 by 30", x, 119, 6, 119, 30);
-        x = ring(6, -20, 5);
+        x = Graphs.ring(6, -20, 5);
         x.arc(0, 1, -19, 5);
         fractions("six points, -119 by 6, -119 by 30", x, -119, 6, -119, 30);
     }
@@ -205,7 +205,7 @@ public final class PromisesTest {
     }
 
     private static void promises8And9Refuse() {
-        MeanCycles x = ring(3, 1, 1);
+        MeanCycles x = Graphs.ring(3, 1, 1);
         for (int out : OUTSIDE_OF_THREE) {
             Due.is("meanArc(" + out + ", 0)", x.meanArc(out, 0), false);
             Due.is("meanArc(0, " + out + ")", x.meanArc(0, out), false);
@@ -240,7 +240,7 @@ public final class PromisesTest {
         Due.is("meanPoints() with a loop", x.meanPoints(), 60);
         x.arc(5, 5, -20, 5);
         Due.is("meanPoints() of the loop", x.meanPoints(), 32);
-        Due.is("meanPoints() of a ring of six", ring(6, -3, 2).meanPoints(), 63);
+        Due.is("meanPoints() of a ring of six", Graphs.ring(6, -3, 2).meanPoints(), 63);
         Due.is("meanPoints() without a circle", new MeanCycles(6).meanPoints(), 0);
     }
 
@@ -262,13 +262,13 @@ public final class PromisesTest {
             Due.is("ratio -1/2, steady(" + p + ")", half.steady(p), false);
             Due.is("ratio 2, steady(" + p + ")", whole.steady(p), false);
         }
-        Due.is("least ratio, steady(-20)", ring(6, -20, 1).steady(-20), true);
-        Due.is("least ratio, steady(-19)", ring(6, -20, 1).steady(-19), false);
+        Due.is("least ratio, steady(-20)", Graphs.ring(6, -20, 1).steady(-20), true);
+        Due.is("least ratio, steady(-19)", Graphs.ring(6, -20, 1).steady(-19), false);
     }
 
     private static void promise12OnCircle() {
         Due.is("onCircle() of a new object", new MeanCycles(6).onCircle(), 0);
-        Due.is("onCircle() of a ring of six", ring(6, 20, 5).onCircle(), 63);
+        Due.is("onCircle() of a ring of six", Graphs.ring(6, 20, 5).onCircle(), 63);
         MeanCycles x = twoRingsWithABridge();
         Due.is("onCircle() of two rings and a loop", x.onCircle(), 63);
         x.cut(5, 5);
@@ -282,21 +282,13 @@ public final class PromisesTest {
     }
 
     private static void objectsAreApart() {
-        MeanCycles x = ring(3, 1, 1);
-        MeanCycles y = ring(2, -3, 2);
+        MeanCycles x = Graphs.ring(3, 1, 1);
+        MeanCycles y = Graphs.ring(2, -3, 2);
         fractions("the first object", x, 1, 1, 1, 1);
         fractions("the second object", y, -3, 1, -3, 2);
         y.cut(0, 1);
         Due.is("onCircle() of the first", x.onCircle(), 7);
         Due.is("onCircle() of the second", y.onCircle(), 0);
-    }
-
-    private static MeanCycles ring(int n, int weight, int time) {
-        MeanCycles x = new MeanCycles(n);
-        for (int u = 0; u < n; u++) {
-            Due.is("arc of a ring", x.arc(u, (u + 1) % n, weight, time), true);
-        }
-        return x;
     }
 
     /** Rings 0-1 and 2-3-4 of mean 1, a light bridge from the first to the second, a loop of mean 2. */
